@@ -591,7 +591,7 @@ public final class WhoSpeaks {
     /** One PARAGRAPH: its ITEMS, and what they alone say of who speaks. */
     private static final class Paragraph {
         private final int[] kinds;
-        /** Whose name an ITEM is, or to whom a QUOTE is spoken; else NOTHING. */
+        /** Whose name an ITEM is; NOTHING, if it is none. */
         private final int[] persons;
         private int count;
         private boolean on;
@@ -636,7 +636,7 @@ public final class WhoSpeaks {
             for (int i = on ? 1 : 0; i < tape.length(); i++) {
                 int code = tape.codeAt(i);
                 if (tape.codeAt(i - 1) == TO_SIGN) {
-                    speakLastTo(code - FIRST_NAME);
+                    noteSpokenTo(code - FIRST_NAME);
                 } else if (code != TO_SIGN) {
                     addItem(code);
                 }
@@ -653,19 +653,16 @@ public final class WhoSpeaks {
             boolean named = isWithin(p, MOST_PEOPLE);
             kinds[count] = named ? NAME : code;
             persons[count] = named ? p : NOTHING;
-            count++;
             mentioned |= bitOf(p);
+            count++;
             if (code == QUOTE) {
                 quoteCount++;
             }
         }
 
-        private void speakLastTo(int p) {
-            if (isWithin(count - 1, persons.length)) {
-                persons[count - 1] = p;
-                mentioned |= bitOf(p);
-                spokenTo |= bitOf(p);
-            }
+        private void noteSpokenTo(int p) {
+            mentioned |= bitOf(p);
+            spokenTo |= bitOf(p);
         }
 
         private void noteVerbs() {
