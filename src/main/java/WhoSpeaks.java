@@ -574,8 +574,8 @@ public final class WhoSpeaks {
                 case ON_SIGN:
                     return i == 0 && mayGoOn;
                 case TO_SIGN:
-                    // Where nobody is there, no name can come behind it.
-                    return ahead == QUOTE && people.thereSet() != 0;
+                    // Even where nobody is there: a TAPE that ends with it just ends too soon.
+                    return ahead == QUOTE;
                 case QUOTE:
                 case VERB:
                 case OTHER:

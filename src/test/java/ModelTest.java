@@ -99,17 +99,15 @@ public final class ModelTest {
             return text.charAt(0) != '+' || mayGoOn && text.indexOf('q') >= 0;
         }
 
-        /** Whether any TEXT begins with this: a name and a QUOTE are all that it can lack. */
+        /**
+         * Whether a TEXT goes on with this: a name and a QUOTE are all that it can lack. A TAPE that
+         * ends with a QUOTE and @ just ends too soon whoever is there, so that @ is left out.
+         */
         boolean begins(String start) {
-            if (isText(start) || isText(start + "q")) {
-                return true;
+            if (start.endsWith("q@")) {
+                return begins(start.substring(0, start.length() - 1));
             }
-            for (char name : names().toCharArray()) {
-                if (isText(start + name) || isText(start + name + "q")) {
-                    return true;
-                }
-            }
-            return false;
+            return isText(start) || isText(start + "q");
         }
 
         int firstFault() {

@@ -217,9 +217,21 @@ public final class PromisesTest {
         due("+ with the quote last", write(x, "+oq"), 3);
         WhoSpeaks nobody = new WhoSpeaks();
         fault(nobody, "A", 0);
-        fault(nobody, "q@", 1);
-        fault(nobody, "q@A", 1);
+        fault(nobody, "q@", 2);
+        fault(nobody, "q@A", 2);
+        fault(nobody, "q@q", 2);
+        fault(nobody, "q@@", 2);
+        fault(nobody, "@", 0);
+        fault(nobody, "v@", 1);
+        fault(nobody, "vqq@", 4);
+        fault(nobody, "qqqqqqqqqqq@", 12);
         due("nobody is there", write(nobody, "qvh"), 0);
+        fault(nobody, "+@", 1);
+        fault(nobody, "+q@", 3);
+        WhoSpeaks gone = with("h");
+        due("all go away", gone.away(0), 0);
+        fault(gone, "q@", 2);
+        fault(gone, "q@A", 2);
     }
 
     private static void goingOn() {
