@@ -6,11 +6,13 @@ import java.util.regex.Pattern;
 
 /**
  * Long runs of calls against a model that is written straight from the document's words and tries
- * every WAY one by one. The seed is fixed, so that each run of the test makes the same calls.
+ * every WAY one by one, or counts them for each one told, where they are too many. The seed is fixed, so that each run of the test makes the same calls.
  */
 public final class ModelTest {
     private static final int RUNS = 400;
     private static final int CALLS = 512;
+    /** A cut, a + and 13 codes with a name each, a PARAGRAPH, a wipe; and 4 questions. */
+    private static final int MOST_OF_A_CHANGE = 34;
     private static int wrong = 0;
 
     public static void main(String[] args) {
@@ -73,12 +75,34 @@ public final class ModelTest {
         }
     }
 
+    /** How many WAYS there are, and in how many of them a PERSON has a PARAGRAPH. */
+    private static final class Ways {
+        final long[][] told = new long[16][8];
+        long count = 0;
+
+        /** Who has which (-1: it does not SPEAK). */
+        void add(int[] way, int first, int last) {
+            count++;
+            for (int k = first; k <= last; k++) {
+                if (way[k] >= 0) {
+                    told[k][way[k]]++;
+                }
+            }
+        }
+    }
+
     private static final class Model {
+        /** Too many WAYS to try them one by one. */
+        final boolean large;
         final int[] sorts = {-9, -9, -9, -9, -9, -9, -9, -9};
         final List<Part> parts = new ArrayList<>();
         String tape = "";
         int here = 0;
         int rules = 15;
+
+        Model(boolean large) {
+            this.large = large;
+        }
 
         String names() {
             StringBuilder names = new StringBuilder();
@@ -216,16 +240,31 @@ public final class ModelTest {
             return now;
         }
 
-        /** Every WAY of PARAGRAPHS first .. last, each as who has which (-1: it does not SPEAK). */
-        List<int[]> ways(int first, int last) {
-            List<int[]> ways = new ArrayList<>();
-            extend(ways, new int[parts.size()], first, first, last);
+        /** The WAYS of PARAGRAPHS first .. last: tried one by one, where they are not too many. */
+        Ways ways(int first, int last) {
+            Ways ways = new Ways();
+            if (!large) {
+                extend(ways, new int[parts.size()], first, first, last);
+                return ways;
+            }
+            List<TreeSet<Integer>> owns = owns();
+            ways.count = counted(owns, first, last);
+            for (int k = first; k <= last; k++) {
+                TreeSet<Integer> all = owns.get(k);
+                for (int p : all) {
+                    TreeSet<Integer> one = new TreeSet<>();
+                    one.add(p);
+                    owns.set(k, one);
+                    ways.told[k][p] = counted(owns, first, last);
+                }
+                owns.set(k, all);
+            }
             return ways;
         }
 
-        private void extend(List<int[]> ways, int[] way, int first, int k, int last) {
+        private void extend(Ways ways, int[] way, int first, int k, int last) {
             if (k > last) {
-                ways.add(way.clone());
+                ways.add(way, first, last);
                 return;
             }
             if (!parts.get(k).speaks()) {
@@ -242,26 +281,46 @@ public final class ModelTest {
             }
         }
 
-        List<int[]> ways() {
+        /** How many WAYS there are with other OWN sets, from who has the PARAGRAPH ahead. */
+        private long counted(List<TreeSet<Integer>> owns, int first, int last) {
+            long all = 1;
+            long[] ahead = new long[8];
+            for (int k = first; k <= last; k++) {
+                if (!parts.get(k).speaks()) {
+                    continue;
+                }
+                int link = k == first ? 0 : link(k);
+                long sum = 0;
+                long[] now = new long[8];
+                for (int p : owns.get(k)) {
+                    now[p] = link == 0 ? all : link == 1 ? ahead[p] : all - ahead[p];
+                    sum += now[p];
+                }
+                ahead = now;
+                all = sum;
+            }
+            return all;
+        }
+
+        Ways ways() {
             return ways(0, parts.size() - 1);
         }
 
-        static long told(List<int[]> ways, int k, int p) {
-            return ways.stream().filter(way -> way[k] == p).count();
-        }
-
-        static TreeSet<Integer> sure(List<int[]> ways, int k) {
+        static TreeSet<Integer> sure(Ways ways, int k) {
             TreeSet<Integer> sure = new TreeSet<>();
-            ways.forEach(way -> sure.add(way[k]));
-            sure.remove(-1);
+            for (int p = 0; p < 8; p++) {
+                if (ways.told[k][p] > 0) {
+                    sure.add(p);
+                }
+            }
             return sure;
         }
 
         int conflict(int what) {
             for (int end = 0; end < parts.size(); end++) {
-                if (ways(0, end).isEmpty()) {
+                if (ways(0, end).count == 0) {
                     int begin = end;
-                    while (!ways(begin, end).isEmpty()) {
+                    while (ways(begin, end).count > 0) {
                         begin--;
                     }
                     return what == 0 ? begin : end;
@@ -271,14 +330,14 @@ public final class ModelTest {
         }
 
         int asked() {
-            List<int[]> ways = ways();
+            Ways ways = ways();
             int best = -9;
             long fewest = Long.MAX_VALUE;
             for (int k = 0; k < parts.size(); k++) {
                 TreeSet<Integer> sure = sure(ways, k);
                 long most = 0;
                 for (int p : sure) {
-                    most = Math.max(most, told(ways, k, p));
+                    most = Math.max(most, ways.told[k][p]);
                 }
                 if (sure.size() >= 2 && most < fewest) {
                     fewest = most;
@@ -306,7 +365,7 @@ public final class ModelTest {
         }
 
         /** Numbers of the PARAGRAPHS that a PERSON HAS, or (alone false) MAY HAVE. */
-        List<Integer> had(List<int[]> ways, int p, boolean alone) {
+        List<Integer> had(Ways ways, int p, boolean alone) {
             List<Integer> had = new ArrayList<>();
             for (int k = 0; k < parts.size(); k++) {
                 TreeSet<Integer> sure = sure(ways, k);
@@ -318,7 +377,7 @@ public final class ModelTest {
         }
 
         List<Integer> ranks() {
-            List<int[]> ways = ways();
+            Ways ways = ways();
             List<Integer> people = new ArrayList<>();
             for (char name : names().toCharArray()) {
                 people.add(name - 'A');
@@ -358,18 +417,20 @@ public final class ModelTest {
     /** Makes the same calls on the class and on the model. */
     private static final class Player {
         final WhoSpeaks x = new WhoSpeaks();
-        final Model m = new Model();
+        final Model m;
         final List<String> calls = new ArrayList<>();
         final Random random;
-        /** Few PEOPLE and PARAGRAPHS in most runs, so that all WAYS can be tried. */
+        /** Few PEOPLE and PARAGRAPHS in most runs, so that all WAYS can be tried; all in some. */
         final int people;
         final int paragraphs;
 
         Player(int run) {
             random = new Random(run);
             boolean alone = run % 8 == 0;
-            people = alone ? 2 : 3 + run % 3;
-            paragraphs = alone ? 17 : 8 - run % 3;
+            boolean large = run % 8 == 4;
+            m = new Model(large);
+            people = large ? 8 : alone ? 2 : 3 + run % 3;
+            paragraphs = large || alone ? 17 : 8 - run % 3;
         }
 
         void due(String call, long got, long want) {
@@ -388,11 +449,14 @@ public final class ModelTest {
                 }
                 here((1 << people) - 1);
             }
-            while (calls.size() < CALLS && wrong == 0) {
+            while (calls.size() < CALLS - MOST_OF_A_CHANGE && wrong == 0) {
                 change();
                 for (int i = 0; i < 4; i++) {
                     ask();
                 }
+            }
+            while (calls.size() < CALLS && wrong == 0) {
+                ask();
             }
         }
 
@@ -543,12 +607,12 @@ public final class ModelTest {
                     int k = place();
                     due("link(" + k + ")", x.link(k), isPart(k) ? m.link(k) : -1);
                 }
-                case 4 -> due("ways", x.ways(), m.ways().size());
+                case 4 -> due("ways", x.ways(), m.ways().count);
                 case 5 -> {
                     int k = place();
                     int p = somebody();
                     due("would(" + k + ", " + p + ")", x.would(k, p),
-                            isPart(k) && isThere(p) ? Model.told(m.ways(), k, p) : -1);
+                            isPart(k) && isThere(p) ? m.ways().told[k][p] : -1);
                 }
                 case 6 -> {
                     int what = number(0, 1);
@@ -615,7 +679,7 @@ public final class ModelTest {
         void ofPerson(int p, int what) {
             int want = -1;
             if (isThere(p)) {
-                List<int[]> ways = m.ways();
+                Ways ways = m.ways();
                 List<Integer> has = m.had(ways, p, true);
                 want = switch (what) {
                     case 0 -> m.sorts[p];
@@ -647,7 +711,7 @@ public final class ModelTest {
                 case 2 -> m.parts.stream().filter(Part::speaks).count();
                 case 3 -> m.runs().size();
                 case 4 -> {
-                    List<int[]> ways = m.ways();
+                    Ways ways = m.ways();
                     long sure = 0;
                     for (int k = 0; k < m.parts.size(); k++) {
                         sure += Model.sure(ways, k).size() == 1 ? 1 : 0;
