@@ -1029,6 +1029,12 @@ public final class BoundaryTest {
                 .refuses("would(" + MIN + ", " + MAX + ")", UNKNOWN);
         of("15: 0, if it does not SPEAK");
         scene.tells("would(2, 0)", 0).tells("would(2, 2)", 0);
+        of("15: 0, if it does not SPEAK, where one stood ahead of it that did");
+        with("hs", "q").then("ways()", "asked()", "set(0, 1)", "cut()").writes("o")
+                .tells("would(0, 0)", 0).tells("would(0, 1)", 0).tells("asked()", NONE)
+                .tells("ways()", 1).tells("ofPerson(0, 2)", 0).tells("set(0, 2)", NONE);
+        with("h", "q").then("ways()", "cut()").writes("o").tells("many(4)", 0)
+                .tells("ofPerson(0, 1)", 0).tells("ofPerson(0, 3)", NONE).signs(0, ".");
         of("15: 0, if it is no one of the OWN set, or there is no WAY");
         scene.tells("would(0, 1)", 0).tells("would(1, 0)", 0).tells("would(3, 1)", 0);
         with("hs", "qvA", "qvA", "o", "q").tells("would(0, 0)", 0).tells("would(3, 0)", 0);
