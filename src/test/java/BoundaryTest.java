@@ -294,6 +294,8 @@ public final class BoundaryTest {
         around("key(113)", "key(111)", "paragraph()", "cut()");
         around("key(113)", "key(33)", "paragraph()", "wipe()");
         around("key(113)", "wipe()");
+        around("key(113)", "key(0)", "key(1)", "key(2)", "key(3)", "key(4)", "key(5)", "key(6)",
+                "key(7)", "key(8)", "key(9)", "key(127)", "wipe()");
         around("hint(0, 2)", "hint(0, -9)");
         around("set(1, 0)", "set(1, 1)", "set(1, 2)", "link(1)");
         around("ways()", "would(1, 1)", "conflict(0)", "conflict(1)", "asked()", "run(0, 2)");
