@@ -87,16 +87,29 @@ public final class FaceTest {
     private static void inside() {
         Class<?>[] inside = WhoSpeaks.class.getDeclaredClasses();
         due("some twelve classes at most", inside.length <= 11);
+        members(WhoSpeaks.class);
         for (Class<?> type : inside) {
+            members(type);
             due("static: " + type, Modifier.isStatic(type.getModifiers()));
             due("not public: " + type, !Modifier.isPublic(type.getModifiers()));
             int fields = 0;
             for (Field field : type.getDeclaredFields()) {
                 fields += Modifier.isStatic(field.getModifiers()) ? 0 : 1;
-                due("static fields are final: " + field, !Modifier.isStatic(field.getModifiers())
-                        || Modifier.isFinal(field.getModifiers()));
             }
             due("some twenty fields at most: " + type, fields <= 20);
+        }
+    }
+
+    private static void members(Class<?> type) {
+        for (Method method : type.getDeclaredMethods()) {
+            due("seven parameters at most: " + method, method.getParameterCount() <= 7);
+        }
+        for (Field field : type.getDeclaredFields()) {
+            if (Modifier.isStatic(field.getModifiers())) {
+                due("a constant of a number or a text: " + field, field.getType().isPrimitive()
+                        || field.getType() == String.class);
+                due("final: " + field, Modifier.isFinal(field.getModifiers()));
+            }
         }
     }
 
